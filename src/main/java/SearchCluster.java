@@ -698,20 +698,16 @@ public final class SearchCluster {
         return end;
     }
 
-    private static int rowStart(int[] octets, int size, int at) {
-        int start = at;
-        while (start < size && !isRowOctet(octets[start])) {
-            start++;
-        }
-        return start;
+    private static boolean beginsRow(int[] octets, int at) {
+        return isRowOctet(octets[at]) && (at == 0 || !isRowOctet(octets[at - 1]));
     }
 
     private static int countRows(int[] text) {
         int count = 0;
-        int at = rowStart(text, text.length, 0);
-        while (at < text.length) {
-            count++;
-            at = rowStart(text, text.length, rowEnd(text, text.length, at));
+        for (int at = 0; at < text.length; at++) {
+            if (beginsRow(text, at)) {
+                count++;
+            }
         }
         return count;
     }
@@ -723,11 +719,12 @@ public final class SearchCluster {
             return NO_WORDS;
         }
         long[] rows = new long[count];
-        int at = 0;
-        for (int i = 0; i < count; i++) {
-            int start = rowStart(text, text.length, at);
-            at = rowEnd(text, text.length, start);
-            rows[i] = wordOf(text, start, at);
+        int place = 0;
+        for (int at = 0; at < text.length && place < count; at++) {
+            if (beginsRow(text, at)) {
+                rows[place] = wordOf(text, at, rowEnd(text, text.length, at));
+                place++;
+            }
         }
         return rows;
     }
@@ -980,11 +977,13 @@ public final class SearchCluster {
 
         /** Each REQUEST ends in 40 TICKS, so those that ended long ago need not be looked at again. */
         void skipClosed() {
-            Request request = requestAt(firstOpen);
-            while (request != null && request.state != IS_OPEN) {
+            while (firstOpen < requestCount && !isOpen(requestAt(firstOpen))) {
                 firstOpen++;
-                request = requestAt(firstOpen);
             }
+        }
+
+        private static boolean isOpen(Request request) {
+            return request != null && request.state == IS_OPEN;
         }
 
         void ageRequests(int host) {
@@ -1173,19 +1172,19 @@ public final class SearchCluster {
         /** Answers 0, or -2 less the place of the FAULT. */
         int read(int[] octets, int size) {
             int seen = 0;
-            int at = 0;
-            while (at >= 0 && at < size) {
-                if (octets[at] == ' ') {
-                    at++;
-                } else if (seen == MOST_CLAUSES) {
-                    return fault(at);
-                } else {
-                    seen++;
-                    at = readClause(octets, size, at);
+            int next = 0;
+            for (int at = 0; at < size; at++) {
+                if (at < next || octets[at] == ' ') {
+                    continue;
                 }
-            }
-            if (at < 0) {
-                return at;
+                if (seen == MOST_CLAUSES) {
+                    return fault(at);
+                }
+                seen++;
+                next = readClause(octets, size, at);
+                if (next < 0) {
+                    return next;
+                }
             }
             return seen == 0 ? fault(size) : 0;
         }
@@ -1225,19 +1224,19 @@ public final class SearchCluster {
 
         private int readQuoted(int[] octets, int size, int start) {
             int count = 0;
-            int at = start;
-            while (at < size) {
-                if (octets[at] == ' ') {
-                    at++;
-                } else if (octets[at] == '"') {
+            for (int at = start; at < size; at++) {
+                if (octets[at] == '"') {
                     return endQuoted(octets, size, at, count);
-                } else if (!isRowOctet(octets[at]) || count == MOST_ROWS) {
+                }
+                if (octets[at] != ' ' && !isRowOctet(octets[at])) {
                     return fault(at);
-                } else {
-                    int end = rowEnd(octets, size, at);
-                    words[clauses * MOST_ROWS + count] = wordOf(octets, at, end);
+                }
+                if (beginsRow(octets, at)) {
+                    if (count == MOST_ROWS) {
+                        return fault(at);
+                    }
+                    words[clauses * MOST_ROWS + count] = wordOf(octets, at, rowEnd(octets, size, at));
                     count++;
-                    at = end;
                 }
             }
             return fault(size);

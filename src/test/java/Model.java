@@ -583,6 +583,12 @@ final class Model {
         block(store, g % 2, head);
     }
 
+    /** How many octets are left in the HALF that COUNTS. */
+    int room(int node, int shard) {
+        Store store = shardAt(node, shard).store;
+        return 6400 - endOf(half(store, counting(store) % 2));
+    }
+
     private static boolean fits(Store store, byte[] record) {
         return endOf(half(store, counting(store) % 2)) + record.length <= 6400;
     }

@@ -18,6 +18,9 @@ public final class RandomRunsTest {
         "theing", "internationals", "Internationing", "abcdefghijklies", "abcdefghijkl", "abcdefghijklmn", "dog", "do",
         "dogs", "ing", "ed", "s", "ss", "ies", "series", "b", "c2ing", "zz", "z"};
 
+    // More than an object is promised to answer: how it stands late in a run is looked at, too.
+    private static final int CALLS = 1200;
+
     private final Random chance;
     private final SearchCluster x = new SearchCluster();
     private final Model m = new Model();
@@ -27,6 +30,8 @@ public final class RandomRunsTest {
     private int s = 2;
     private int c = 2;
     private int wrong;
+    private int calls;
+    private int fill;
 
     private RandomRunsTest(int seed) {
         this.seed = seed;
@@ -35,7 +40,7 @@ public final class RandomRunsTest {
 
     public static void main(String[] args) {
         int first = args.length > 0 ? Integer.parseInt(args[0]) : 0;
-        int many = args.length > 1 ? Integer.parseInt(args[1]) : 240;
+        int many = args.length > 1 ? Integer.parseInt(args[1]) : 170;
         int wrong = 0;
         for (int seed = first; seed < first + many && wrong < 3; seed++) {
             RandomRunsTest run = new RandomRunsTest(seed);
@@ -66,42 +71,404 @@ public final class RandomRunsTest {
     }
 
     private void go() {
-        int style = seed % 6;
+        int style = seed % 17;
         if (!oneIn(8)) {
             n = 1 + below(5);
             s = 1 + below(4);
             c = 1 + below(Math.min(3, n));
-            if (style == 2) {
+            if (style == 2 || style >= 6) {
                 n = 2 + below(3);
-                s = 1;
+                s = oneIn(3) ? 2 : 1;
                 c = 2 + below(Math.min(2, n - 1));
+            }
+            if (style == 15) {
+                n = 1 + below(2);
+                s = 4;
+                c = 1;
             }
             both("make", q -> q.make(n, s, c), q -> q.make(n, s, c));
         }
-        int calls = 480;
-        for (int i = 0; i < calls && wrong == 0; i++) {
+        while (calls < CALLS && wrong == 0) {
+            int before = calls;
             step(style);
-            compareSome();
-            if (i % 40 == 39 || i == calls - 1) {
+            if (calls / 100 != before / 100) {
                 compareDisks();
                 compareSegments();
             }
         }
+        compareDisks();
+        compareSegments();
     }
 
     private void step(int style) {
         int dice = below(100);
-        if (style == 2) {
-            heavy(dice);
-        } else if (style == 3) {
-            byHand(dice);
-        } else if (style == 4) {
-            torn(dice);
-        } else if (style == 5) {
-            searching(dice);
-        } else {
-            mixed(dice);
+        switch (style) {
+            case 2: heavy(dice); break;
+            case 3: byHand(dice); break;
+            case 4: torn(dice); break;
+            case 5: searching(dice); break;
+            case 6: leaveBehind(); break;
+            case 7: loseSome(); break;
+            case 8: fillDisks(); break;
+            case 9: outage(); break;
+            case 10: waitMuch(); break;
+            case 11: anyPhase(); break;
+            case 12: partition(); break;
+            case 13: burst(); break;
+            case 14: fillExactly(); break;
+            case 15: helloAgain(); break;
+            case 16: loseKind(); break;
+            default: mixed(dice);
         }
+    }
+
+    private void anyPhase() {
+        switch (below(12)) {
+            case 0: leaveBehind(); break;
+            case 1: loseSome(); break;
+            case 2: fillDisks(); break;
+            case 3: outage(); break;
+            case 4: waitMuch(); break;
+            case 5: helloAgain(); break;
+            case 6: partition(); break;
+            case 7: burst(); break;
+            case 8: fillExactly(); break;
+            case 9: makeAgain(); break;
+            case 10: loseKind(); break;
+            default:
+                for (int i = 0; i < 30; i++) {
+                    mixed(below(100));
+                }
+        }
+    }
+
+    private void write(int documents, int times) {
+        write(text());
+        int node = below(n);
+        int document = below(documents);
+        both("put " + node + " " + document, q -> q.put(node, document), q -> q.put(node, document));
+        run(times);
+    }
+
+    private void toggle(int node) {
+        if (m.up(node)) {
+            both("down " + node, q -> q.down(node), q -> q.down(node));
+        } else {
+            both("start " + node, q -> q.start(node) ? 1 : 0, q -> q.start(node) ? 1 : 0);
+        }
+    }
+
+    private void startAll() {
+        for (int node = 0; node <= n; node++) {
+            if (!m.up(node)) {
+                toggle(node);
+            }
+        }
+    }
+
+    /** A node is away while the others go on so far that their BASE is beyond it. */
+    private void leaveBehind() {
+        startAll();
+        run(8);
+        int node = below(n);
+        toggle(node);
+        int writes = 20 + below(90);
+        for (int i = 0; i < writes; i++) {
+            write(60, i % 3 == 0 ? 1 : 0);
+            if (oneIn(12)) {
+                refresh();
+            }
+            if (i == 10) {
+                run(14);
+            }
+        }
+        if (oneIn(3)) {
+            breakSoon(node);
+        }
+        startAll();
+        run(oneIn(2) ? 2 : 20);
+    }
+
+    /** As run(), but some MESSAGES are lost. */
+    private void loseSome() {
+        int odds = 3 + below(12);
+        if (oneIn(3)) {
+            write(12, 0);
+        }
+        if (oneIn(6)) {
+            refresh();
+        }
+        if (oneIn(8)) {
+            find();
+        }
+        if (oneIn(25)) {
+            toggle(below(n + 1));
+        }
+        if (oneIn(15)) {
+            startAll();
+        }
+        for (int i = 0; i <= n; i++) {
+            for (int k = 0; k <= n; k++) {
+                int from = i;
+                int to = k;
+                for (int left = m.link(from, to); left > 0; left--) {
+                    if (oneIn(odds)) {
+                        both("lose " + from + " " + to, q -> q.lose(from, to), q -> q.lose(from, to));
+                    } else if (!oneIn(20)) {
+                        both("deliver " + from + " " + to, q -> q.deliver(from, to), q -> q.deliver(from, to));
+                    }
+                }
+            }
+        }
+        both("tick", q -> q.tick(), q -> q.tick());
+    }
+
+    /** Long texts of many documents, so that RECORDS do not fit any more. */
+    private void fillDisks() {
+        startAll();
+        for (int i = 0; i < 40; i++) {
+            int document = (fill++ * 7) % 100;
+            int node = below(n);
+            StringBuilder text = new StringBuilder();
+            while (text.length() < 40) {
+                text.append(oneIn(2) ? VOCABULARY[below(VOCABULARY.length)] : Integer.toString(below(1296), 36))
+                        .append(' ');
+            }
+            text.setLength(oneIn(6) ? below(41) : 40);
+            write(text.toString());
+            both("put " + node + " " + document, q -> q.put(node, document), q -> q.put(node, document));
+            if (oneIn(3)) {
+                refresh();
+            }
+            if (oneIn(3)) {
+                run(2);
+            }
+        }
+        if (oneIn(2)) {
+            breakSoon(below(n));
+            toggle(below(n));
+            run(14);
+        }
+    }
+
+    private void outage() {
+        for (int i = 0; i < 6; i++) {
+            write(12, 2);
+        }
+        refresh();
+        run(4);
+        for (int node = 0; node < n; node++) {
+            if (!oneIn(4) && m.up(node)) {
+                toggle(node);
+                run(below(3));
+            }
+        }
+        if (oneIn(4)) {
+            toggle(n);
+        }
+        run(below(20));
+        for (int i = 0; i < n; i++) {
+            int node = below(n + 1);
+            if (!m.up(node)) {
+                toggle(node);
+                run(below(6));
+            }
+        }
+        startAll();
+        run(below(20));
+    }
+
+    private void waitMuch() {
+        startAll();
+        run(16);
+        write(12, 4);
+        int node = below(n);
+        toggle(node);
+        int many = 10 + below(30);
+        for (int i = 0; i < many; i++) {
+            refresh();
+            if (oneIn(10)) {
+                run(1);
+            }
+        }
+        run(1 + below(12));
+    }
+
+    private void helloAgain() {
+        for (int i = 0; i < 40; i++) {
+            int node = below(n);
+            toggle(node);
+            if (oneIn(100)) {
+                breakSoon(n);
+            }
+            both("deliver " + node + " " + n, q -> q.deliver(node, n), q -> q.deliver(node, n));
+        }
+        startAll();
+        run(5);
+    }
+
+    /** For some time, some LINKS lose or hold all that is on them. */
+    private void partition() {
+        startAll();
+        boolean[] loses = new boolean[100];
+        boolean[] holds = new boolean[100];
+        int cut = below(n + 1);
+        for (int i = 0; i < 100; i++) {
+            boolean bad = oneIn(3) ? i / 10 == cut || i % 10 == cut : oneIn(6);
+            loses[i] = bad && oneIn(2);
+            holds[i] = bad && !loses[i];
+        }
+        int rounds = 8 + below(25);
+        for (int i = 0; i < rounds; i++) {
+            if (oneIn(2)) {
+                write(12, 0);
+            }
+            if (oneIn(6)) {
+                refresh();
+            }
+            round(loses, holds);
+        }
+        if (oneIn(3)) {
+            toggle(below(n + 1));
+        }
+        for (int i = 0; i < 6; i++) {
+            round(new boolean[100], new boolean[100]);
+        }
+    }
+
+    /** For some time, most MESSAGES of one kind from one node are lost. */
+    private void loseKind() {
+        startAll();
+        int kind = new int[] {16, 16, 11, 14, 8, 7, 13, 12, 5, 6, 18}[below(11)];
+        int who = below(n + 1);
+        toggle(below(n));
+        int rounds = 10 + below(30);
+        for (int r = 0; r < rounds; r++) {
+            if (r == 9) {
+                startAll();
+            }
+            if (oneIn(3)) {
+                write(12, 0);
+            }
+            for (int i = 0; i <= n; i++) {
+                for (int k = 0; k <= n; k++) {
+                    int from = i;
+                    int to = k;
+                    for (int left = m.link(from, to); left > 0; left--) {
+                        if (from == who && m.message(from, to, 0, 0) == kind && !oneIn(12)) {
+                            both("lose " + from + " " + to, q -> q.lose(from, to), q -> q.lose(from, to));
+                        } else {
+                            both("deliver " + from + " " + to, q -> q.deliver(from, to), q -> q.deliver(from, to));
+                        }
+                    }
+                }
+            }
+            both("tick", q -> q.tick(), q -> q.tick());
+        }
+    }
+
+    private void round(boolean[] loses, boolean[] holds) {
+        for (int i = 0; i <= n; i++) {
+            for (int k = 0; k <= n; k++) {
+                int from = i;
+                int to = k;
+                for (int left = m.link(from, to); left > 0 && !holds[from * 10 + to]; left--) {
+                    if (loses[from * 10 + to]) {
+                        both("lose " + from + " " + to, q -> q.lose(from, to), q -> q.lose(from, to));
+                    } else {
+                        both("deliver " + from + " " + to, q -> q.deliver(from, to), q -> q.deliver(from, to));
+                    }
+                }
+            }
+        }
+        both("tick", q -> q.tick(), q -> q.tick());
+    }
+
+    /** Much comes at once: LINKS are full, and ACTS are not SURE. */
+    private void burst() {
+        startAll();
+        run(10);
+        write(12, 1);
+        if (m.told(1) == 0) {
+            return;
+        }
+        int host = m.request(m.told(1) - 1, 2);
+        for (int from = 0; from < n; from++) {
+            for (int i = 0; i < m.link(from, host); i++) {
+                if (m.message(from, host, i, 0) == 5) {
+                    int at = from;
+                    both("lose " + at + " " + host, q -> q.lose(at, host), q -> q.lose(at, host));
+                }
+            }
+        }
+        if (oneIn(2)) {
+            toggle(below(n));
+        }
+        int many = 30 + below(60);
+        for (int i = 0; i < many; i++) {
+            write(12, 0);
+        }
+        run(3 + below(10));
+        for (int i = 0; i < 12; i++) {
+            find();
+        }
+        run(3);
+    }
+
+    /** Texts so long that a HALF is filled to its last octets, and then any RECORD. */
+    private void fillExactly() {
+        startAll();
+        run(4);
+        int primary = m.view(n, 0, 1);
+        for (int i = 0; i < 60; i++) {
+            int room = m.room(primary, 0);
+            int size = room > 110 ? 40 : Math.max(0, Math.min(40, room - 12 - below(9)));
+            write("abcdefghijklmnopqrstuvwxyz 0123456789 abc".substring(0, size));
+            int document = fill++ % 100 / s * s;
+            both("put " + primary + " " + document, q -> q.put(primary, document), q -> q.put(primary, document));
+            run(2);
+            if (room < 110) {
+                if (oneIn(3)) {
+                    breakSoon(below(n));
+                }
+                switch (below(3)) {
+                    case 0:
+                        both("refresh", q -> q.refresh(primary, 0), q -> q.refresh(primary, 0));
+                        break;
+                    case 1:
+                        toggle(primary);
+                        run(2);
+                        startAll();
+                        break;
+                    default:
+                        break;
+                }
+                run(below(4));
+                return;
+            }
+        }
+    }
+
+    private void makeAgain() {
+        int nn = any(1, 5);
+        int ss = any(1, 4);
+        int cc = any(1, 3);
+        both("make " + nn + " " + ss + " " + cc, q -> q.make(nn, ss, cc), q -> q.make(nn, ss, cc));
+        n = m.n;
+        s = m.s;
+        c = m.c;
+    }
+
+    private void breakSoon(int node) {
+        int blocks = 1 + below(5);
+        int k = below(64);
+        both("fail " + node + " " + blocks + " " + k, q -> {
+            q.fail(node, blocks, k);
+            return 0;
+        }, q -> {
+            q.fail(node, blocks, k);
+            return 0;
+        });
     }
 
     private void mixed(int dice) {
@@ -113,6 +480,8 @@ public final class RandomRunsTest {
             refresh();
         } else if (dice < 46) {
             find();
+        } else if (oneIn(300)) {
+            makeAgain();
         } else if (dice < 76) {
             run(oneIn(20) ? any(0, 60) : any(0, 4));
         } else if (dice < 88) {
@@ -269,6 +638,9 @@ public final class RandomRunsTest {
         for (int i = 0; i < words; i++) {
             text.append(VOCABULARY[below(VOCABULARY.length)]).append(" ,.-' ".charAt(below(6)));
         }
+        while (oneIn(2) && text.length() < 40) {
+            text.append((char) ('a' + below(26))).append((char) ('0' + below(10))).append(' ');
+        }
         while (oneIn(3) && text.length() < 40) {
             text.append("ab9 c.d z").append(below(10)).append((char) ('a' + below(26)));
         }
@@ -284,6 +656,9 @@ public final class RandomRunsTest {
 
     private String question() {
         StringBuilder question = new StringBuilder();
+        if (oneIn(30)) {
+            return oneIn(2) ? "" : "   ";
+        }
         int clauses = 1 + below(oneIn(6) ? 8 : 3);
         for (int i = 0; i < clauses; i++) {
             question.append(new String[] {"", "", "", "+", "-"}[below(5)]);
@@ -327,6 +702,10 @@ public final class RandomRunsTest {
                 octets = octets << 8 | text.charAt(i + k) & 255;
             }
             long sent = octets;
+            if (oneIn(80)) {
+                int odd = new int[] {0, 9, -1, Integer.MIN_VALUE, Integer.MAX_VALUE}[below(5)];
+                both("draft odd " + odd, q -> q.draft(odd, sent), q -> q.draft(odd, sent));
+            }
             both("draft " + text, q -> q.draft(many, sent), q -> q.draft(many, sent));
         }
     }
@@ -334,6 +713,12 @@ public final class RandomRunsTest {
     private void both(String name, Call call, ModelCall modelCall) {
         said.add(name);
         compare(name, call, modelCall);
+        if (!name.startsWith("draft")) {
+            calls++;
+            if (oneIn(2)) {
+                compareSome();
+            }
+        }
     }
 
     private void compare(String name, Call call, ModelCall modelCall, int... arguments) {
