@@ -641,14 +641,14 @@ public final class SearchCluster {
                     case ROUTE: keeper.onRoute(from, m); break;
                     case ADD: keeper.onAdd(from, m); break;
                     case FAIL: keeper.onFail(from, m); break;
-                    case HELLO: keeper.onSign(from, m); break;
+                    case HELLO:
                     case BEAT: keeper.onSign(from, m); break;
                     case OPEN: nodes[to].onOpen(from, m); break;
                     case SCORE: nodes[to].onScore(from, m); break;
-                    case MAP: world.answer(from, m); break;
-                    case NO: world.answer(from, m); break;
-                    case DONE: world.answer(from, m); break;
-                    case STATS: world.answer(from, m); break;
+                    case MAP:
+                    case NO:
+                    case DONE:
+                    case STATS:
                     case TOP: world.answer(from, m); break;
                     default: break;
                 }

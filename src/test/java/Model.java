@@ -583,6 +583,13 @@ final class Model {
         block(store, g % 2, head);
     }
 
+    /** All OCTETS of a SEGMENT; none if there is no such one. */
+    byte[] octetsOf(int node, int shard, int g) {
+        boolean there = node < n && machines[node].up && machines[node].shards.containsKey(shard)
+                && g < machines[node].shards.get(shard).segments.size();
+        return there ? octets(machines[node].shards.get(shard).segments.get(g)) : new byte[0];
+    }
+
     /** How many octets are left in the HALF that COUNTS. */
     int room(int node, int shard) {
         Store store = shardAt(node, shard).store;
