@@ -64,6 +64,12 @@ public final class SearchCluster {
     private static final int AT_T = 5;
     private static final int AT_F = 6;
     private static final int MESSAGE_NUMBERS = 30;
+    // SYNC's numbers behind its shard
+    private static final int S_TERM = 1;
+    private static final int S_BASE = 2;
+    private static final int S_SURE = 3;
+    private static final int S_LAST = 4;
+    private static final int S_SHOWN = 5;
 
     // DISKS
     private static final int BLOCK = 64;
@@ -846,7 +852,7 @@ public final class SearchCluster {
         }
 
         int carriedAct(int number) {
-            int i = number - numbers[2] - 1;
+            int i = number - numbers[S_BASE] - 1;
             return i < 0 || i >= acts.length ? NONE : acts[i];
         }
     }
@@ -1670,38 +1676,39 @@ public final class SearchCluster {
 
         /** Takes over what a SYNC carries. */
         void follow(Message m) {
-            int t = m.numbers[1];
-            int told = m.numbers[3];
+            int t = m.numbers[S_TERM];
+            int told = m.numbers[S_SURE];
             int like = likeUpTo(m);
-            if (sure < m.numbers[2]) {
+            if (sure < m.numbers[S_BASE]) {
                 rebase(m, like);
             } else if (like < last || t > term) {
                 cutTo(like, t);
             }
             raiseSure(told);
-            int end = Math.min(m.numbers[4], MOST_ACTS - 1);
+            int end = Math.min(m.numbers[S_LAST], MOST_ACTS - 1);
             for (int number = last + 1; number <= end; number++) {
                 append(m.carriedAct(number), t);
                 raiseSure(told);
             }
-            if (m.numbers[5] > shown) {
-                showUpTo(m.numbers[5]);
+            if (m.numbers[S_SHOWN] > shown) {
+                showUpTo(m.numbers[S_SHOWN]);
             }
         }
 
+        /** The last number up to which own ACTS are those of a SYNC. */
         private int likeUpTo(Message m) {
-            int at = Math.max(sure, m.numbers[2]);
-            while (at < last && at < m.numbers[4] && actAt(at + 1) == m.carriedAct(at + 1)) {
+            int at = Math.max(sure, m.numbers[S_BASE]);
+            while (at < last && at < m.numbers[S_LAST] && actAt(at + 1) == m.carriedAct(at + 1)) {
                 at++;
             }
             return at;
         }
 
         private void rebase(Message m, int like) {
-            base = m.numbers[2];
+            base = m.numbers[S_BASE];
             last = like;
-            sure = Math.max(base, Math.min(m.numbers[3], like));
-            term = m.numbers[1];
+            sure = Math.max(base, Math.min(m.numbers[S_SURE], like));
+            term = m.numbers[S_TERM];
             if (m.documents.length == DOCUMENTS && m.done.length == DONE_OCTETS) {
                 System.arraycopy(m.documents, 0, documents, 0, DOCUMENTS);
                 System.arraycopy(m.done, 0, done, 0, DONE_OCTETS);
@@ -1963,7 +1970,7 @@ public final class SearchCluster {
         }
 
         void onSync(int from, Message m) {
-            int t = m.numbers[1];
+            int t = m.numbers[S_TERM];
             if (t < copy.term || t == copy.term && role == PRIMARY) {
                 return;
             }
@@ -2033,7 +2040,7 @@ public final class SearchCluster {
         private void syncWith(int x) {
             Message sync = world.send(node, x, SYNC);
             sync.with(copy.shard, copy.term, copy.base, copy.sure, copy.last);
-            sync.numbers[5] = copy.shown;
+            sync.numbers[S_SHOWN] = copy.shown;
             sync.carry(copy);
             sent[x] = world.now;
         }
