@@ -13,6 +13,7 @@ public final class TermsTest {
         generationsGoRound();
         doneInBase();
         refusedWhenNotSure();
+        heardAtFirst();
         twentyWait();
         rebased();
         segmentsBecomeOne();
@@ -237,6 +238,24 @@ public final class TermsTest {
         x.run(30);
         CHECK.due("not sure: till the other one is out", x.copy(0, 0, 3), 31);
         CHECK.due("not sure: all are done", x.request(30, 0), 1);
+    }
+
+    /** One that was never heard counts as heard at tick 0. */
+    private static void heardAtFirst() {
+        SearchCluster x = Check.made(2, 1, 2);
+        x.down(1);
+        x.drop(0, 0);
+        x.deliver(0, 2);
+        x.deliver(2, 0);
+        x.deliver(0, 0);
+        for (int i = 0; i < 8; i++) {
+            x.tick();
+        }
+        CHECK.due("heard: in at tick 8", x.other(0, 0, 1, 0), 3);
+        x.tick();
+        CHECK.due("heard: leaving at tick 9", x.other(0, 0, 1, 0), 4);
+        CHECK.due("heard: FAIL", x.message(0, 2, x.link(0, 2) - 1, 0), 12);
+        CHECK.due("heard: with its count", x.message(0, 2, x.link(0, 2) - 1, 4), 0);
     }
 
     private static void twentyWait() {
