@@ -262,7 +262,6 @@ public final class SearchCluster {
     }
 
     public int message(int from, int to, int i, int what) throws IndexOutOfBoundsException {
-        requireLink(from, to);
         Message message = world.messageAt(from, to, i);
         if (message == null || what < 0 || what > TOLD_NUMBERS) {
             throw new IndexOutOfBoundsException("no such message");

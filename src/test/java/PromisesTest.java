@@ -64,6 +64,15 @@ public final class PromisesTest {
         CHECK.due("2: no messages", x.told(2), 0);
         CHECK.due("2: now", x.told(0), 0);
         CHECK.due("2: all are up", x.up(0) ? 1 : 0, 1);
+        for (int i = 0; i < 61; i++) {
+            x.drop(0, 0);
+        }
+        x.run(3);
+        CHECK.due("2: one was lost", x.told(4), 1);
+        x.make(5, 4, 3);
+        for (int what = 0; what < 7; what++) {
+            CHECK.due("2: told " + what, x.told(what), 0);
+        }
         CHECK.due("2: the draft stays", x.draft(1, 'c'), 3);
         CHECK.due("2: shard 3's copies are at 3, 4, 0", x.view(5, 3, 2), 8 + 16 + 1);
         CHECK.due("2: shard 3's primary", x.copy(3, 3, 5), 2);
@@ -200,6 +209,9 @@ public final class PromisesTest {
             CHECK.due("7: the draft is empty then", x.draft(1, ' '), 1);
             x.find(0, 1);
         }
+        Check.find(x, 0, 1, "abcdefghijklmnop.");
+        CHECK.due("7: what was drafted before is gone", Check.find(x, 0, 1, "+"), -3);
+        CHECK.due("7: behind a quote, too", Check.find(x, 0, 1, "a -\""), -6);
         String[] fine = {" a ", "+a -b", "\" a  b \"", "a*", "+12*", "-\"a\"", "\"a b c d\"", "a b c d e f ", "the"};
         int r = 1;
         for (String question : fine) {

@@ -4,7 +4,7 @@ import java.util.Random;
 public final class RandomRunsTest {
     private static final String[] VOCABULARY = {"cat", "cats", "Cat", "running", "run", "runs", "the", "a", "an", "of",
         "flies", "fly", "ties", "boss", "bred", "red", "walked", "sing", "ring", "rings", "x1", "42", "4s", "thes",
-        "theing", "internationals", "Internationing", "abcdefghijklies", "abcdefghijkl", "abcdefghijklmn", "dog", "do",
+        "theing", "internationals", "Internationing", "abcdefghijklies", "abcdefghijkl", "abcdefghijkm", "abcdefghijklmn", "dog", "do",
         "dogs", "ing", "ed", "s", "ss", "ies", "series", "b", "c2ing", "zz", "z", "4cats", "9flies", "offing", "an1"};
 
     // More than an object is promised to answer: how it stands late in a run is looked at, too.

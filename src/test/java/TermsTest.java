@@ -9,6 +9,8 @@ public final class TermsTest {
         tornFlush();
         wipedAtStart();
         fullHalf();
+        tornAtTheEnd();
+        madeAgain();
         keeperFlush();
         generationsGoRound();
         doneInBase();
@@ -156,6 +158,56 @@ public final class TermsTest {
             pair.put(0, i % 100, FORTY.substring(0, size));
             pair.run(2);
         }
+    }
+
+    /** The last two BLOCKS of a HALF hold a RECORD that tears. */
+    private static void tornAtTheEnd() {
+        for (int left = 52; left <= 116; left += 4) {
+            for (int m = 1; m <= 2; m++) {
+                for (int k : new int[] {0, 1, 20, 50}) {
+                    Pair pair = new Pair(left + " octets are left, block " + m + " tears with " + k);
+                    pair.make(1, 1, 1);
+                    fillUp(pair, left);
+                    CHECK.due(pair.name + " at first", pair.m.room(0, 0), left);
+                    pair.fail(0, m, k);
+                    pair.put(0, 3, FORTY);
+                    pair.run(3);
+                    pair.compareDisks();
+                    pair.startAll();
+                    pair.compareAll();
+                    pair.run(6);
+                    pair.put(0, 4, FORTY);
+                    pair.run(6);
+                    agree(pair);
+                }
+            }
+        }
+    }
+
+    /** Nothing of a cluster is left in the next one. */
+    private static void madeAgain() {
+        int[][] sizes = {{1, 4, 1}, {5, 4, 3}, {2, 1, 2}, {3, 2, 2}};
+        Pair pair = new Pair("made again");
+        for (int[] size : sizes) {
+            pair.make(size[0], size[1], size[2]);
+            pair.compareAll();
+            for (int i = 0; i < 100; i++) {
+                pair.put(0, i % 30, "number" + i);
+                pair.run(1);
+            }
+            for (int shard = 0; shard < size[1]; shard++) {
+                pair.refresh(0, shard);
+            }
+            pair.run(4);
+            pair.find(0, 10, "number1* -number2");
+            pair.fail(0, 900, 5);
+            pair.tick();
+            pair.run(2);
+            pair.down(0);
+            pair.run(3);
+            pair.compareAll();
+        }
+        CHECK.due(pair.name, pair.wrong, 0);
     }
 
     private static void keeperFlush() {
