@@ -15,6 +15,14 @@ final class Check {
         }
     }
 
+    void same(String what, String got, String want) {
+        asked++;
+        if (!got.equals(want)) {
+            wrong++;
+            System.out.println(what + " answered " + got + ", due is " + want);
+        }
+    }
+
     /** The call throws just this class, no class below it. */
     void thrown(String what, Class<? extends RuntimeException> want, Call call) {
         asked++;
@@ -29,6 +37,17 @@ final class Check {
         }
         wrong++;
         System.out.println(what + " " + got + ", due is " + want.getName());
+    }
+
+    /** The call throws nothing. */
+    void fine(String what, Call call) {
+        asked++;
+        try {
+            call.answer();
+        } catch (RuntimeException e) {
+            wrong++;
+            System.out.println(what + " threw " + e.getClass().getName() + ", due is an answer");
+        }
     }
 
     void outside(String what, Call call) {
