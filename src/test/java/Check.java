@@ -94,7 +94,8 @@ final class Check {
 
     /** Ends the test: with exit code 1 if an answer was wrong. */
     void end(String name) {
-        System.out.println(name + ": " + (wrong == 0 ? asked + " answers are as due" : wrong + " answers are not as due"));
+        String told = wrong == 0 ? asked + " answers are as due" : wrong + " answers are not as due";
+        System.out.println(name + ": " + told);
         if (wrong != 0) {
             System.exit(1);
         }

@@ -2,8 +2,15 @@ import java.util.ArrayList;
 import java.util.Arrays;
 import java.util.List;
 
-/** The class and the model side by side: each call goes to both, and their answers must be alike. */
+/**
+ * The class and the model side by side: each call goes to both, and their answers must be alike. No object of the class
+ * is used for more calls than it is promised for: one that is used up gives way to a new one, on which all calls that
+ * change something are made again.
+ */
 final class Pair {
+    private static final int MOST_CALLS = 512;
+    private static final int MOST_CHANGES = 400;
+
     interface Call {
         long on(SearchCluster x);
     }
@@ -12,15 +19,54 @@ final class Pair {
         long on(Model m);
     }
 
-    final SearchCluster x = new SearchCluster();
     final Model m = new Model();
     final String name;
-    int calls;
     int wrong;
+    private final boolean beyond;
+    private final List<Call> changes = new ArrayList<>();
     private final List<String> said = new ArrayList<>();
+    private SearchCluster object = new SearchCluster();
+    private int used;
 
     Pair(String name) {
+        this(name, false);
+    }
+
+    /** With beyond, one object is used for all calls, and for more than are promised. */
+    Pair(String name, boolean beyond) {
         this.name = name;
+        this.beyond = beyond;
+    }
+
+    /** The class's object, for one call that changes nothing. */
+    SearchCluster x() {
+        if (used >= MOST_CALLS && !beyond) {
+            object = new SearchCluster();
+            used = 0;
+            for (Call change : changes) {
+                answerOf(change);
+            }
+        }
+        used++;
+        return object;
+    }
+
+    private void answerOf(Call change) {
+        used++;
+        try {
+            change.on(object);
+        } catch (RuntimeException e) {
+            // what it threw was compared when it was made for the first time
+        }
+    }
+
+    int changes() {
+        return changes.size();
+    }
+
+    /** Whether no more calls are taken that change something, so that there is room for those that ask. */
+    boolean full() {
+        return changes.size() >= MOST_CHANGES && !beyond;
     }
 
     // ---- calls that change something
@@ -42,7 +88,7 @@ final class Pair {
     }
 
     long draft(int many, long octets) {
-        return compare("draft", q -> q.draft(many, octets), q -> q.draft(many, octets), many);
+        return change(q -> q.draft(many, octets), q -> q.draft(many, octets), "draft", many);
     }
 
     long put(int node, int document) {
@@ -114,9 +160,19 @@ final class Pair {
     }
 
     private long both(String call, Call onClass, ModelCall onModel, int... arguments) {
-        calls++;
-        said.add(call + Arrays.toString(arguments));
-        return compare(call, onClass, onModel, arguments);
+        if (!full()) {
+            said.add(call + Arrays.toString(arguments));
+        }
+        return change(onClass, onModel, call, arguments);
+    }
+
+    private long change(Call onClass, ModelCall onModel, String call, int... arguments) {
+        if (full()) {
+            return 0;
+        }
+        long answer = compare(call, onClass, onModel, arguments);
+        changes.add(onClass);
+        return answer;
     }
 
     /** What both answer; 0 if they throw the same. */
@@ -128,8 +184,9 @@ final class Pair {
         long due = 0;
         Class<?> thrown = null;
         Class<?> dueThrown = null;
+        SearchCluster asked = x();
         try {
-            got = onClass.on(x);
+            got = onClass.on(asked);
         } catch (RuntimeException e) {
             thrown = e.getClass();
         }
@@ -245,17 +302,9 @@ final class Pair {
     }
 
     void compareDisks() {
-        for (int i = 0; i <= m.n; i++) {
-            int node = i;
-            for (int k = 0; k < m.s; k++) {
-                int shard = k;
-                int octets = holds(node, shard) || node == m.n && shard == 0 ? 202 * 64 : 1;
-                for (int at = 0; at < octets; at++) {
-                    int block = at / 64;
-                    int octet = at % 64;
-                    compare("disk", q -> q.disk(node, shard, block, octet), q -> q.disk(node, shard, block, octet),
-                            node, shard, block, octet);
-                }
+        for (int node = 0; node <= m.n; node++) {
+            for (int shard = 0; shard < m.s; shard++) {
+                compareDisk(node, shard);
             }
             for (int d = 0; d < 100; d++) {
                 if (holds(node, d % m.s)) {
@@ -263,6 +312,27 @@ final class Pair {
                 }
             }
         }
+    }
+
+    /** All of each BLOCK in which something is, and an octet of each other one. */
+    void compareDisk(int node, int shard) {
+        if (!holds(node, shard) && (node != m.n || shard > 0)) {
+            compareOctet(node, shard, 0, 0);
+            return;
+        }
+        for (int block = 0; block < 202; block++) {
+            boolean empty = true;
+            for (int i = 0; i < 64; i++) {
+                empty &= m.disk(node, shard, block, i) == 0;
+            }
+            for (int i = empty ? block % 64 : 0; i < (empty ? block % 64 + 1 : 64); i++) {
+                compareOctet(node, shard, block, i);
+            }
+        }
+    }
+
+    private void compareOctet(int node, int shard, int block, int i) {
+        compare("disk", q -> q.disk(node, shard, block, i), q -> q.disk(node, shard, block, i), node, shard, block, i);
     }
 
     void compareSegments() {
@@ -277,7 +347,7 @@ final class Pair {
         }
     }
 
-    private void compareSegment(int node, int shard, int g) {
+    void compareSegment(int node, int shard, int g) {
         for (int w = -1; w <= 3; w++) {
             int what = w;
             compare("segment", q -> q.segment(node, shard, g, what), q -> q.segment(node, shard, g, what),

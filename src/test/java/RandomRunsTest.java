@@ -4,39 +4,50 @@ import java.util.Random;
 public final class RandomRunsTest {
     private static final String[] VOCABULARY = {"cat", "cats", "Cat", "running", "run", "runs", "the", "a", "an", "of",
         "flies", "fly", "ties", "boss", "bred", "red", "walked", "sing", "ring", "rings", "x1", "42", "4s", "thes",
-        "theing", "internationals", "Internationing", "abcdefghijklies", "abcdefghijkl", "abcdefghijkm", "abcdefghijklmn", "dog", "do",
+        "theing", "internationals", "Internationing", "abcdefghijklies", "abcdefghijkl", "abcdefghijkm",
+        "abcdefghijklmn", "dog", "do",
         "dogs", "ing", "ed", "s", "ss", "ies", "series", "b", "c2ing", "zz", "z", "4cats", "9flies", "offing", "an1"};
 
-    // More than an object is promised to answer: how it stands late in a run is looked at, too.
-    private static final int CALLS = 1200;
+    // With beyond: more than an object is promised to answer, for some states come late alone.
+    private static final int CALLS_BEYOND = 2000;
     private static final int STYLES = 17;
+    private static final int LOOK_AFTER = 15;
 
     private final Random chance;
     private final Pair pair;
     private final int seed;
+    private final boolean beyond;
+    private int looked;
     private int n = 3;
     private int s = 2;
     private int fill;
 
-    private RandomRunsTest(int seed) {
+    private RandomRunsTest(int seed, boolean beyond) {
         this.seed = seed;
+        this.beyond = beyond;
         chance = new Random(seed);
-        pair = new Pair("seed " + seed);
+        pair = new Pair("seed " + seed, beyond);
     }
 
     public static void main(String[] args) {
         int first = args.length > 0 ? Integer.parseInt(args[0]) : 0;
-        int many = args.length > 1 ? Integer.parseInt(args[1]) : 10 * STYLES;
-        int wrong = 0;
-        for (int seed = first; seed < first + many && wrong < 3; seed++) {
-            RandomRunsTest run = new RandomRunsTest(seed);
-            run.go();
-            wrong += run.pair.wrong;
-        }
+        int many = args.length > 1 ? Integer.parseInt(args[1]) : 20 * STYLES;
+        int wrong = runs(first, many, args.length > 2);
         System.out.println(wrong == 0 ? many + " runs by chance agree with the model" : wrong + " runs disagree");
         if (wrong != 0) {
             System.exit(1);
         }
+    }
+
+    /** Answers how many of these runs disagree, three at most. */
+    static int runs(int first, int many, boolean beyond) {
+        int wrong = 0;
+        for (int seed = first; seed < first + many && wrong < 3; seed++) {
+            RandomRunsTest run = new RandomRunsTest(seed, beyond);
+            run.go();
+            wrong += run.pair.wrong;
+        }
+        return wrong;
     }
 
     private int below(int bound) {
@@ -74,15 +85,37 @@ public final class RandomRunsTest {
             }
             pair.make(n, s, c);
         }
-        while (pair.calls < CALLS && pair.wrong == 0) {
-            int before = pair.calls;
+        int disks = 0;
+        while (!pair.full() && pair.changes() < CALLS_BEYOND && pair.wrong == 0) {
             step(style);
-            if (pair.calls / 100 != before / 100) {
-                pair.compareDisks();
-                pair.compareSegments();
+            if (pair.changes() / 130 != disks) {
+                disks = pair.changes() / 130;
+                compareSome();
             }
         }
-        pair.compareAll();
+        compareSome();
+        if (beyond) {
+            pair.compareAll();
+        }
+    }
+
+    /** A DISK, and a node's documents and SEGMENTS. */
+    private void compareSome() {
+        int node = below(n);
+        for (int shard = 0; shard < s; shard++) {
+            if (pair.holds(node, shard)) {
+                for (int g = 0; g <= 4; g++) {
+                    pair.compareSegment(node, shard, g);
+                }
+            }
+        }
+        pair.compareDisk(node, node % s);
+        pair.compareDisk(n, 0);
+        for (int d = 0; d < 100; d += oneIn(2) ? 1 : 3) {
+            pair.compareDocument(node, d, 0);
+        }
+        looked = pair.changes() - LOOK_AFTER;
+        look();
     }
 
     private void step(int style) {
@@ -640,24 +673,28 @@ public final class RandomRunsTest {
         pair.write(text);
     }
 
-    /** Compares some of how the cluster stands; what lies outside now and then alone, for exceptions take time. */
+    /** Compares some of how the cluster stands, now and then; what lies outside seldom, for exceptions take time. */
     private void look() {
-        int beyond = oneIn(12) ? 1 : 0;
-        pair.compareCounts(beyond);
+        if (pair.changes() < looked + LOOK_AFTER) {
+            return;
+        }
+        looked = pair.changes();
+        int outside = oneIn(12) ? 1 : 0;
+        pair.compareCounts(outside);
         for (int node = 0; node <= n; node++) {
             for (int shard = 0; shard < s; shard++) {
-                pair.compareCopy(node, shard, beyond);
-                if (beyond == 1 || pair.holds(node, shard)) {
-                    pair.compareOther(node, shard, below(n), beyond);
+                pair.compareCopy(node, shard, outside);
+                if (outside == 1 || pair.holds(node, shard)) {
+                    pair.compareOther(node, shard, below(n), outside);
                     pair.compareAct(node, shard, below(70));
                 }
             }
-            pair.compareMessage(node, below(n + 1), below(3), beyond);
+            pair.compareMessage(node, below(n + 1), below(3), outside);
         }
         int count = pair.m.told(1);
-        for (int r = Math.max(0, count - 6); r < count + beyond; r++) {
-            pair.compareRequest(r, beyond);
+        for (int r = Math.max(0, count - 6); r < count + outside; r++) {
+            pair.compareRequest(r, outside);
         }
-        pair.compareDocument(below(n + 1), below(14), beyond);
+        pair.compareDocument(below(n + 1), below(14), outside);
     }
 }
