@@ -576,6 +576,10 @@ public final class RandomRunsTest {
         pair.startAll();
         run(4);
         int primary = pair.m.view(n, 0, 1);
+        if (primary < 0) {
+            // THE KEEPER tore again as soon as it was UP
+            return;
+        }
         for (int i = 0; i < 60; i++) {
             int room = pair.m.room(primary, 0);
             int size = room > 110 ? 40 : Math.max(0, Math.min(40, room - 12 - below(9)));
